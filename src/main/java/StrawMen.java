@@ -54,8 +54,7 @@ public final class StrawMen {
     private static final int FAULT_ITSELF = 5;
 
     // The words of the language, six signs each.
-    private static final String WORDS = "claim contrastraw memberholds debatestuff damp  seed  law   lean  wear  "
-        + "turn  or    and   not   weighttemperfull  force wins  held  night ";
+    private static final String WORDS = "claim contrastraw memberholds debatestuff damp  seed  law   lean  wear  turn  or    and   not   weighttemperfull  force wins  held  night ";
     private static final int WORD_LETTERS = 6;
     private static final int WORD_COUNT = 23;
     private static final int W_CLAIM = 0;
@@ -118,8 +117,6 @@ public final class StrawMen {
     private static final int N_HELD = 5;
     private static final int N_NIGHT = 6;
 
-    private final byte[] tape;
-    private int tapeLength;
     private final Reader reader;
     private int latestFault;
     private int faultPlace;
@@ -134,11 +131,9 @@ public final class StrawMen {
     private final Pairing pairing;
 
     public StrawMen() {
-        tape = new byte[TAPE_MOST];
-        tapeLength = 0;
         script = new Script();
         spare = new Script();
-        reader = new Reader(tape, spare);
+        reader = new Reader(spare);
         latestFault = 0;
         faultPlace = NONE;
         now = new World(script);
@@ -151,22 +146,21 @@ public final class StrawMen {
     }
 
     public int feed(int a, int b, int c, int d, int e) {
-        if (tapeLength + FED_BYTES > TAPE_MOST) {
+        if (reader.fed + FED_BYTES > TAPE_MOST) {
             return NONE;
         }
-        append(a);
-        append(b);
-        append(c);
-        append(d);
-        append(e);
-        return tapeLength;
+        reader.append(a);
+        reader.append(b);
+        reader.append(c);
+        reader.append(d);
+        reader.append(e);
+        return reader.fed;
     }
 
     public int text(int n) {
-        if (n < 0 || n > tapeLength) {
+        if (n < 0 || n > reader.fed) {
             return NOT_SO;
         }
-        tapeLength = 0;
         reader.begin(n, spare);
         for (int i = 0; i < TAPE_MOST && reader.hasMore(); i++) {
             reader.line();
@@ -576,15 +570,6 @@ public final class StrawMen {
         return what < 6 ? countTold(what) : countNow(what);
     }
 
-    private void append(int four) {
-        for (int shift = 24; shift >= 0; shift -= 8) {
-            if (tapeLength < tape.length) {
-                tape[tapeLength] = (byte) (four >> shift);
-                tapeLength++;
-            }
-        }
-    }
-
     private boolean isClaim(int claim) {
         return claim >= 0 && claim < script.claims.names.size;
     }
@@ -876,8 +861,9 @@ public final class StrawMen {
         }
 
         int standingCount() {
+            int all = all();
             int count = 0;
-            for (int set = 0; set <= all(); set++) {
+            for (int set = 0; set <= all; set++) {
                 if (isStanding(set)) {
                     count++;
                 }
@@ -886,9 +872,10 @@ public final class StrawMen {
         }
 
         int inAllStanding() {
-            int shared = all();
+            int all = all();
+            int shared = all;
             boolean any = false;
-            for (int set = 0; set <= all(); set++) {
+            for (int set = 0; set <= all; set++) {
                 if (isStanding(set)) {
                     shared &= set;
                     any = true;
@@ -898,8 +885,9 @@ public final class StrawMen {
         }
 
         int inAnyStanding() {
+            int all = all();
             int some = 0;
-            for (int set = 0; set <= all(); set++) {
+            for (int set = 0; set <= all; set++) {
                 if (isStanding(set)) {
                     some |= set;
                 }
@@ -908,8 +896,9 @@ public final class StrawMen {
         }
 
         int standingAt(int k) {
+            int all = all();
             int left = k;
-            for (int set = 0; set <= all(); set++) {
+            for (int set = 0; set <= all; set++) {
                 if (isStanding(set)) {
                     if (left == 0) {
                         return set;
@@ -921,8 +910,9 @@ public final class StrawMen {
         }
 
         int largestDefended() {
+            int all = all();
             int largest = 0;
-            for (int set = 0; set <= all(); set++) {
+            for (int set = 0; set <= all; set++) {
                 if (Integer.bitCount(set) > Integer.bitCount(largest) && isDefended(set)) {
                     largest = set;
                 }
@@ -1260,9 +1250,10 @@ public final class StrawMen {
         }
     }
 
-    /** Reads the tape into a script, up to the first fault. One token is looked at ahead. */
+    /** The tape, and how it is read into a script up to the first fault. One token is looked at ahead. */
     private static final class Reader {
         final byte[] tape;
+        int fed;
         final int[] language;
         int length;
         Script script;
@@ -1278,8 +1269,9 @@ public final class StrawMen {
         int fault;
         int place;
 
-        Reader(byte[] tape, Script script) {
-            this.tape = tape;
+        Reader(Script script) {
+            tape = new byte[TAPE_MOST];
+            fed = 0;
             this.script = script;
             law = script.laws[LEAN];
             language = new int[WORD_COUNT];
@@ -1298,8 +1290,19 @@ public final class StrawMen {
             return packed;
         }
 
+        void append(int four) {
+            for (int shift = 24; shift >= 0; shift -= 8) {
+                if (fed < TAPE_MOST) {
+                    tape[fed] = (byte) (four >> shift);
+                    fed++;
+                }
+            }
+        }
+
+        // The tape is empty for what is fed next; its bytes stay until the text is read.
         void begin(int bytes, Script target) {
-            length = Math.min(bytes, tape.length);
+            length = Math.min(bytes, TAPE_MOST);
+            fed = 0;
             script = target;
             script.clear();
             at = 0;
@@ -1322,13 +1325,13 @@ public final class StrawMen {
 
         private void next() {
             before = start;
-            while (at < length && at < tape.length && (tape[at] == 10 || tape[at] == 32)) {
+            while (at < length && at < TAPE_MOST && (tape[at] == 10 || tape[at] == 32)) {
                 at++;
             }
             start = at;
             sign = NONE;
             word = NONE;
-            if (at >= length || at >= tape.length) {
+            if (at >= length || at >= TAPE_MOST) {
                 kind = T_END;
             } else if (tape[at] >= 'a' && tape[at] <= 'z') {
                 readWord();
@@ -1342,7 +1345,7 @@ public final class StrawMen {
         private void readWord() {
             letters = 0;
             int shift = 25;
-            while (at < length && at < tape.length && tape[at] >= 'a' && tape[at] <= 'z') {
+            while (at < length && at < TAPE_MOST && tape[at] >= 'a' && tape[at] <= 'z') {
                 if (shift >= 0) {
                     letters |= (tape[at] - 'a' + 1) << shift;
                 }
@@ -1365,7 +1368,7 @@ public final class StrawMen {
         private void readNumber() {
             kind = T_NUMBER;
             number = 0;
-            while (at < length && at < tape.length && tape[at] >= '0' && tape[at] <= '9') {
+            while (at < length && at < TAPE_MOST && tape[at] >= '0' && tape[at] <= '9') {
                 // Any number above all bounds is as good as another, so it needn't grow beyond an int.
                 number = Math.min(number * 10 + (tape[at] - '0'), 1000000);
                 at++;
@@ -1373,7 +1376,7 @@ public final class StrawMen {
         }
 
         private void readSign(int first) {
-            int second = at + 1 < length && at + 1 < tape.length ? tape[at + 1] : 0;
+            int second = at + 1 < length && at + 1 < TAPE_MOST ? tape[at + 1] : 0;
             at++;
             kind = T_SIGN;
             switch (first) {
@@ -2135,7 +2138,7 @@ public final class StrawMen {
                     most[member << STRAWS_MOST | taken] = mostFrom(member, taken);
                 }
             }
-            pairs = most[0];
+            pairs = pairsFrom(0, 0);
             choose();
         }
 
@@ -2149,8 +2152,13 @@ public final class StrawMen {
             return bits;
         }
 
+        private int pairsFrom(int member, int taken) {
+            int at = member << STRAWS_MOST | taken;
+            return at >= 0 && at < most.length ? most[at] : 0;
+        }
+
         private int mostFrom(int member, int taken) {
-            int best = most[member + 1 << STRAWS_MOST | taken];
+            int best = pairsFrom(member + 1, taken);
             for (int straw = 0; straw < STRAWS_MOST; straw++) {
                 best = Math.max(best, withStraw(member, taken, straw));
             }
@@ -2159,17 +2167,17 @@ public final class StrawMen {
 
         // How many pairs there are, if the member has the straw; NONE, if he can't.
         private int withStraw(int member, int taken, int straw) {
-            if (((beatable[member] & ~taken) >> straw & 1) == 0) {
+            if (member < 0 || member >= MEMBERS_MOST || ((beatable[member] & ~taken) >> straw & 1) == 0) {
                 return NONE;
             }
-            return 1 + most[member + 1 << STRAWS_MOST | taken | 1 << straw];
+            return 1 + pairsFrom(member + 1, taken | 1 << straw);
         }
 
         private void choose() {
             int taken = 0;
             for (int member = 0; member < MEMBERS_MOST; member++) {
                 straws[member] = NOT_SO;
-                int wanted = most[member << STRAWS_MOST | taken];
+                int wanted = pairsFrom(member, taken);
                 for (int straw = 0; straw < STRAWS_MOST && straws[member] == NOT_SO; straw++) {
                     if (withStraw(member, taken, straw) == wanted) {
                         straws[member] = straw;
