@@ -1369,8 +1369,8 @@ public final class StrawMen {
             kind = T_NUMBER;
             number = 0;
             while (at < length && at < TAPE_MOST && tape[at] >= '0' && tape[at] <= '9') {
-                // Any number above all bounds is as good as another, so it needn't grow beyond an int.
-                number = Math.min(number * 10 + (tape[at] - '0'), 1000000);
+                // A number of six digits is above all bounds, so it needn't grow beyond an int.
+                number = number < 100000 ? number * 10 + (tape[at] - '0') : number;
                 at++;
             }
         }

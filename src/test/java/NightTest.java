@@ -29,6 +29,7 @@ public final class NightTest {
         StrawMen x = Check.told(Check.FIVE_CLAIMS);
         Check.due("claim(1, 0)", x.claim(1, 0), 60);
         Check.due("claim(3, 1)", x.claim(3, 1), 3);
+        Check.due("claim(0, 1)", x.claim(0, 1), 1);
         Check.due("claim(1, 2)", x.claim(1, 2), 5);
         Check.due("claim(1, 3)", x.claim(1, 3), 1);
         Check.due("claim(4, 2)", x.claim(4, 2), 0);
@@ -340,6 +341,8 @@ public final class NightTest {
         Check.due("won more", x.ahead(2, 0, 0), 1);
         Check.due("put off more", x.ahead(2, 4, 0), 1);
         Check.due("in the shed then, not more", x.ahead(0, 3, 0), 1);
+        x.go(1);
+        Check.due("put off already", x.ahead(2, 4, 0), 0);
         StrawMen y = Check.told(ONE + "debate y s 0;debate y s 1;");
         Check.due("beaten more", y.ahead(1, 1, 0), 1);
         y.go(1);
@@ -385,6 +388,7 @@ public final class NightTest {
         Check.due("its own numbers stay", x.straw(1, 1), other.straw(1, 1));
         Check.due("damp 100", Check.told("claim a 1 1;straw s a 3;damp 100;").chance(9, 3, 0), 10);
         Check.due("damp 100, too soon", Check.told("claim a 1 1;straw s a 3;damp 100;").chance(9, 2, 0), 0);
+        Check.due("damp 100, one night", Check.told("claim a 1 1;straw s a 1;damp 100;").chance(9, 1, 0), 10);
         Check.due("damp 0", Check.told("claim a 1 1;straw s a 1;").chance(9, 99, 0), 0);
         Check.due("chance(-1, ..)", x.chance(-1, 6, 0), Check.NONE);
         Check.due("chance(.., 0, ..)", x.chance(0, 0, 0), Check.NONE);

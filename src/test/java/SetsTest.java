@@ -69,6 +69,12 @@ public final class SetsTest {
         Check.due("standing(3)", x.standing(3), Check.NONE);
         Check.due("standing(-1)", x.standing(-1), Check.NONE);
         Check.due("nothing stands alone", new StrawMen().standing(0), 1);
+        StrawMen all = quarrel("");
+        Check.due("all stand: how many", all.standing(0), 1);
+        Check.due("all stand: of all", all.standing(1), 255);
+        Check.due("all stand: of any", all.standing(2), 255);
+        Check.due("all stand: which", all.stand(0), 255);
+        Check.due("all stand: the largest", all.largest(), 255);
     }
 
     private static void grounds() {

@@ -4,6 +4,7 @@ public final class TextTest {
         newObject();
         feeding();
         telling();
+        cutOff();
         tokens();
         tooMuch();
         twice();
@@ -23,6 +24,7 @@ public final class TextTest {
         Check.due("new text(0)", x.text(0), 0);
         Check.due("new text(1)", x.text(1), -2);
         Check.due("new ground", x.ground(), 0);
+        Check.due("new back", new StrawMen().back(), Check.NONE);
     }
 
     private static void feeding() {
@@ -76,6 +78,25 @@ public final class TextTest {
         Check.due("fault(1) of a fine one", x.fault(1), Check.NONE);
         x.see(1, 0, 0, true);
         Check.due("all are known by again", x.count(14), 1);
+    }
+
+    /** What stands on the tape behind the first n bytes is no part of the text. */
+    private static void cutOff() {
+        String[] texts = {"member xy;", "damp 10;", "law lean 1<=2;", "law lean 1>=2;", "law lean 1<>2;"};
+        int[] lengths = {8, 6, 11, 11, 11};
+        for (int i = 0; i < texts.length; i++) {
+            StrawMen x = new StrawMen();
+            Check.feed(x, texts[i]);
+            Check.due("cut off " + texts[i], x.text(lengths[i]), Check.NONE);
+            Check.due("fault of cut off " + texts[i], x.fault(0), 1);
+            Check.due("place of cut off " + texts[i], x.fault(1), lengths[i]);
+        }
+        StrawMen x = new StrawMen();
+        Check.feed(x, "member xy;" + " ".repeat(9) + "x".repeat(681));
+        Check.due("the tape is not empty behind it", x.text(19), 1);
+        Check.feed(x, " ".repeat(690) + "member abc");
+        Check.due("up to the last byte", x.text(700), Check.NONE);
+        Check.due("place of the end", x.fault(1), 700);
     }
 
     private static void tokens() {
@@ -166,6 +187,8 @@ public final class TextTest {
         Check.faulty(1, "law#;");
         Check.faulty(1, "law #x 1;");
         Check.faulty(1, "law #night 1;");
+        Check.faulty(1, "law #or 1;");
+        Check.faulty(1, "law #not 1;");
         Check.faulty(1, "law lean#;");
         Check.faulty(1, "law lean #x;");
         Check.faulty(1, "law lean #claim;");

@@ -5,6 +5,7 @@ public final class UndoTest {
 
     public static void main(String[] args) {
         undoing();
+        undoingOthers();
         undoingTwenty();
         images();
         counts();
@@ -45,6 +46,21 @@ public final class UndoTest {
         Check.due("so none is undone", x.undo(), Check.NONE);
         x.take(1, 0);
         Check.due("since then", x.undo(), 0);
+    }
+
+    private static void undoingOthers() {
+        StrawMen x = Check.told("claim a 40 1;claim b 60 2;contra a b;straw r b 50;straw s b 40;member x;member y;"
+            + "holds y a;debate y s 0;debate x s 0;");
+        x.go(1);
+        x.debate(1, 1);
+        x.debate(0, 1);
+        Check.due("beaten twice", x.member(0, 2), 2);
+        x.undo();
+        Check.due("beaten once", x.member(0, 2), 1);
+        x.undo();
+        Check.due("won once", x.member(1, 1), 1);
+        Check.due("the straw it was", x.straw(1, 1), 30);
+        Check.due("not the other one", x.straw(0, 1), 50);
     }
 
     private static void undoingTwenty() {
@@ -95,6 +111,22 @@ public final class UndoTest {
         Check.due("in place of it", x.keep(), 3);
         x.go(5);
         Check.due("back to the later one", x.back(), 3);
+        StrawMen wet = Check.told("claim a 9 0;straw s a 99;member x;damp 37;seed 3;");
+        wet.go(1);
+        wet.debate(0, 0);
+        wet.keep();
+        int[] full = new int[30];
+        for (int i = 0; i < 30; i++) {
+            wet.go(1);
+            full[i] = wet.straw(0, 1);
+        }
+        wet.debate(0, 0);
+        wet.back();
+        Check.due("beaten as then", wet.member(0, 2), 1);
+        for (int i = 0; i < 30; i++) {
+            wet.go(1);
+            Check.due("number " + i + " as then", wet.straw(0, 1), full[i]);
+        }
         StrawMen shed = Check.told("claim a 9 0;claim b 9 0;contra a b;straw s b 1;member x;holds x a;debate x s 0;debate x s 1;");
         shed.keep();
         shed.go(2);
