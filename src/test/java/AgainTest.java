@@ -10,7 +10,7 @@ public final class AgainTest {
         + "damp 60;seed 4711;law lean full / 3;law wear temper + wins;law turn 1;debate v q 0;debate w r 1;debate x s 2;"
         + "debate y t 3;debate z p 4;debate z t 5;stuff q 4;stuff p 2;";
     private static final String SMALL = "claim a 40 1;claim b 60 2;contra b a;straw s b 50;member x;member y;holds y b;"
-        + "debate x s 0;debate y s 1;";
+        + "debate x s 0;debate y s 1;damp 30;";
     private static final String[] TEXTS = {LARGE, SMALL, Check.FIVE_CLAIMS, ""};
 
     public static void main(String[] args) {
@@ -75,6 +75,10 @@ public final class AgainTest {
         answers.add((long) x.undo());
         x.go(7);
         asks(x, answers);
+        for (int night = 0; night < 30; night++) {
+            x.go(1);
+            answers.add((long) x.straw(0, 1));
+        }
         return answers;
     }
 

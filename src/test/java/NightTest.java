@@ -22,6 +22,7 @@ public final class NightTest {
         shedding();
         chances();
         trials();
+        trialsLeaveNothing();
         Check.end("NightTest");
     }
 
@@ -378,6 +379,7 @@ public final class NightTest {
             for (int time = 0; time < 10; time++) {
                 due += chanced(x.straw(0, 1), x.straw(1, 1), last) ? 1 : 0;
             }
+            x.ahead(5, 0, 0);
             Check.due("chance of " + seed, x.chance(seed, 6, 0), due);
             Check.due("chance of the full one", x.chance(seed, 6, 1), 0);
         }
@@ -410,6 +412,29 @@ public final class NightTest {
         return full[0] == 0;
     }
 
+    /** What is tried otherwise is as it was for what is asked next. */
+    private static void trialsLeaveNothing() {
+        StrawMen x = Check.told("claim a 41 1;claim b 60 2;contra a b;contra b a;straw s b 67;straw t a 10;member x;holds x a;"
+            + "member y;holds y b;debate x s 0;debate x s 2;debate x s 3;debate y t 3;damp 60;law wear 66;");
+        // On night 0 the lean is 40, x wins and wears s down to 1, damp makes it 0; y wins on night 3.
+        Check.due("as it goes", x.ahead(4, 0, 0), 2);
+        int[] due = {3, 4, 1, 1, 2};
+        for (int what = 0; what < 5; what++) {
+            Check.due("tried(" + what + ", 0, 4)", x.tried(what, 0, 4), due[what]);
+            Check.due("ahead behind it", x.ahead(4, 0, 0), 2);
+            x.tried(what, 0, 4);
+            Check.due("chance behind it", x.chance(1, 4, 0), Check.told("claim a 41 1;claim b 60 2;contra a b;contra b a;"
+                + "straw s b 67;straw t a 10;member x;holds x a;member y;holds y b;debate x s 0;debate x s 2;"
+                + "debate x s 3;debate y t 3;damp 60;law wear 66;").chance(1, 4, 0));
+            x.tried(what, 0, 4);
+            if (what == 0) {
+                x.see(4, 1, 1, true);
+                x.see(4, 0, 1, true);
+            }
+            Check.due("held behind it", x.held(0), 1);
+        }
+    }
+
     private static void trials() {
         StrawMen x = Check.told(Check.FIVE_CLAIMS);
         int[] due = {3, 3, 0, 0, 3};
@@ -439,8 +464,12 @@ public final class NightTest {
         Check.due("worn out", Check.told(worn).ahead(4, 0, 0), 2);
         Check.due("nothing wears", Check.told(worn).tried(1, 0, 4), 4);
         String both = "claim a 40 1;claim b 60 2;contra b a;straw s b 50;member x;holds x a;debate x s 0;";
-        Check.due("one way", Check.told(both).ahead(1, 0, 0), 0);
-        Check.due("both ways", Check.told(both).tried(4, 0, 1), 1);
+        StrawMen ways = Check.told(both);
+        Check.due("both ways", ways.tried(4, 0, 1), 1);
+        Check.due("one way", ways.ahead(1, 0, 0), 0);
+        ways.see(1, 0, 1, true);
+        ways.tried(4, 0, 1);
+        Check.due("one way for what he held", ways.held(0), 0);
         Check.due("force by name both ways", Check.told(both + "law lean force;").tried(4, 0, 1), 0);
         StrawMen shed = Check.told("claim a 99 1;claim b 60 2;contra a b;straw s b 50;member x;holds x a;"
             + "law wear 99;debate x s 0;debate x s 1;");

@@ -138,6 +138,10 @@ public final class SetsTest {
         drop(x, 4, 0, -2, -2);
         drop(x, 1, 2, 4, 5);
         drop(x, 0, 2, 1, 2);
+        drop(x, 4, 0, -2, -2);
+        StrawMen mixed = quarrel("ba ca ed");
+        drop(mixed, 0, 2, 0, 1);
+        drop(mixed, 3, 1, 2, -2);
         drop(quarrel("ba ca da ea"), 0, -2, -2, -2);
         drop(quarrel("ba cb dc ed"), 0, 0, -2, -2);
         drop(quarrel("ba cb dc ed"), 1, 1, 1, -2);
