@@ -1648,7 +1648,8 @@ public final class StrawMen {
 
         private void denied(int open) {
             int denials = 0;
-            while (denials < KNOTS_MOST && fault == 0 && kind == T_WORD && word == W_NOT) {
+            // One more than there may be knots: the not that is too much must come to be counted, too.
+            while (denials <= KNOTS_MOST && fault == 0 && kind == T_WORD && word == W_NOT) {
                 denials++;
                 knot();
             }

@@ -213,6 +213,22 @@ public final class TextTest {
         Check.faulty(2, "law lean " + ones + ";law turn 1#=1;");
         Check.faulty(2, "law lean " + ones + ";law turn 1;law wear #not 1;");
         Check.faulty(1, "law lean " + ones + ";law turn 1#(1);");
+        Check.faulty(2, "law lean " + times("not ", 64) + "#not");
+        Check.faulty(2, "law lean " + times("not ", 64) + "#not 1;");
+        Check.faulty(2, "law lean " + times("not ", 64) + "#1;");
+        Check.faulty(2, "law lean " + times("not ", 64) + "#night;");
+        Check.faulty(1, "law lean " + times("not ", 64) + "#;");
+        Check.faulty(1, "law lean " + times("not ", 64) + "#and");
+        Check.faulty(1, "law lean " + times("not ", 64) + "#");
+        Check.faulty(2, "law lean " + times("not ", 64) + "(#not 1);");
+        Check.faulty(2, "law lean 1;law turn " + times("not ", 63) + "#not 1;");
+        Check.faulty(2, "law lean 1 and " + times("not ", 62) + "#not 1;");
+        Check.fine("law lean " + times("not ", 63) + "1;", 1);
+        Check.fine("law lean 1;law turn " + times("not ", 62) + "1;", 2);
+        for (String sign : "+ - * / and or".split(" ")) {
+            Check.faulty(2, "law lean 1" + times(" " + sign + " 1", 31) + " " + sign + " #1;");
+            Check.faulty(2, "law lean not 1" + times(" " + sign + " 1", 31) + " #" + sign + " 1;");
+        }
         Check.due("knots", Check.told("law lean " + ones + ";law turn 1;").count(5), 64);
         Check.due("knots of all kinds", Check.told("law lean not (1 + night) * 2 <> 3 and 4 or 5;").count(5), 12);
     }
