@@ -384,7 +384,7 @@ public final class StrawMen {
         if (!isClaim(claim) || what < 0 || what > 1) {
             return NONE;
         }
-        int reply = script.claims.winningReply(claim, 1 << claim, 0);
+        int reply = script.claims.winningReply(claim);
         if (what == 1) {
             return reply == NONE ? NOT_SO : reply;
         }
@@ -962,14 +962,18 @@ public final class StrawMen {
             return defended;
         }
 
+        int winningReply(int claim) {
+            return replyTo(foes, claim, 1 << claim, 0);
+        }
+
         // The first reply to the claim named last that wins; each reply names one more, so depth stays below nine.
-        int winningReply(int last, int named, int depth) {
-            if (depth > CLAIMS_MOST) {
+        private static int replyTo(int[] against, int last, int named, int depth) {
+            if (depth > CLAIMS_MOST || last < 0 || last >= against.length) {
                 return NONE;
             }
-            int open = foesOf(last) & ~named;
+            int open = against[last] & ~named;
             for (int i = 0; i < CLAIMS_MOST; i++) {
-                if ((open >> i & 1) == 1 && winningReply(i, named | 1 << i, depth + 1) == NONE) {
+                if ((open >> i & 1) == 1 && replyTo(against, i, named | 1 << i, depth + 1) == NONE) {
                     return i;
                 }
             }
