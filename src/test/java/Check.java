@@ -13,6 +13,8 @@ final class Check {
 
     private static int wrong = 0;
     private static int calls = 0;
+    // Which promise and sentence is being tested, told ahead of every answer that is not as due.
+    private static String heading = "";
 
     private Check() {
     }
@@ -21,8 +23,16 @@ final class Check {
         calls++;
         if (got != want) {
             wrong++;
-            System.out.println(what + " answered " + got + ", due is " + want);
+            System.out.println(heading + what + " answered " + got + ", due is " + want);
         }
+    }
+
+    static void head(String sentence) {
+        heading = sentence;
+    }
+
+    static int answers() {
+        return calls;
     }
 
     static void due(String what, boolean got, boolean want) {
@@ -55,6 +65,11 @@ final class Check {
             due("text of " + text + ": fault " + x.fault(0) + " at " + x.fault(1), 1, 0);
         }
         return x;
+    }
+
+    /** Numbers that none of so many things has, some of which a careless shift or mask would take for one. */
+    static int[] notOf(int size) {
+        return new int[] {-1, -2, size, size + 1, 32, 33, 64, 256, Integer.MAX_VALUE, Integer.MIN_VALUE};
     }
 
     /** The text has this fault, at the place where the mark stands in it (the mark is taken out). */
