@@ -16,6 +16,7 @@ final class AheadSentences {
         drawn();
         notDrawn();
         tried();
+        triedLeavesNothing();
         triedForNights();
         notTried();
     }
@@ -174,6 +175,7 @@ final class AheadSentences {
         x.go(2);
         for (int seed : new int[] {0, 1, 77, 65536, 2147483646, 2147483647}) {
             for (int n : new int[] {1, 2, 6, 50, 99}) {
+                x.ahead(n, 0, 0);
                 for (int straw = 0; straw < 3; straw++) {
                     int[] full = {x.straw(0, 1), x.straw(1, 1), x.straw(2, 1)};
                     Check.due("chance(" + seed + ", " + n + ", " + straw + ")", x.chance(seed, n, straw),
@@ -262,6 +264,40 @@ final class AheadSentences {
         Check.due("force of a law, too", Check.told(ways + "law lean force;").tried(4, 0, 1), 0);
         Check.due("one way, FORCE now", Check.told(ways).force(0, 1), 0);
         Check.due("the way it was counts, too", Check.told(ONE + "debate x s 0;").tried(4, 0, 1), 1);
+    }
+
+    /** What was tried, and what is asked next goes as ever. */
+    private static void triedLeavesNothing() {
+        Doc.says("Promise 37", "TRIED (n 0 .. 200);");
+        // x wins with s on NIGHT 0 and wears it to 1, damp makes it 0; y wins with t on NIGHT 3. By b alone x wins nothing.
+        String text = "claim a 41 1;claim b 60 2;contra a b;contra b a;straw s b 67;straw t a 10;member x;holds x a;member y;holds y b;"
+            + "debate x s 0;debate x s 2;debate x s 3;debate y t 3;damp 60;law wear 66;";
+        int[] due = {3, 4, 1, 1, 2};
+        for (int what = 0; what < 5; what++) {
+            StrawMen x = Check.told(text);
+            Check.due("tried(" + what + ", 0, 4)", x.tried(what, 0, 4), due[what]);
+            Check.due("ahead(4, 0, 0) behind it", x.ahead(4, 0, 0), 2);
+            x.tried(what, 0, 4);
+            Check.due("sheds(0) behind it", x.sheds(0), 1);
+            x.tried(what, 0, 4);
+            Check.due("chance behind it", x.chance(1, 4, 0), Check.told(text).chance(1, 4, 0));
+            x.see(4, 0, 1, true);
+            x.see(1, 0, 1, true);
+            x.see(4, 0, 2, false);
+            x.tried(what, 0, 4);
+            Check.due("held(0) behind it", x.held(0), 1);
+            x.tried(what, 0, 4);
+            x.go(1);
+            Check.due("WON on NIGHT 0 behind it", x.count(7), 1);
+        }
+        StrawMen ways = Check.told("claim a 40 1;claim b 60 2;contra b a;straw s b 50;member x;holds x a;debate x s 0;");
+        Check.due("both ways", ways.tried(4, 0, 1), 1);
+        Check.due("one way behind it", ways.ahead(1, 0, 0), 0);
+        Check.due("both ways again", ways.tried(4, 0, 1), 1);
+        Check.due("another one tried behind it", ways.tried(0, 0, 1), 0);
+        ways.tried(4, 0, 1);
+        ways.see(1, 0, 1, true);
+        Check.due("what he held behind it", ways.held(0), 0);
     }
 
     private static void triedForNights() {

@@ -224,6 +224,14 @@ final class FaultSentences {
         String names = "law lean night" + "*night".repeat(31) + ";";
         Check.fine(names + "law wear night;", 2);
         Check.faulty(2, names + "law wear night#*night;");
+        StrawMen x = new StrawMen();
+        Check.due("64 KNOTS and a FAULT", Check.tell(x, KNOTS_63 + "law turn 1;!"), Check.NONE);
+        Check.due("KNOTS stay", x.count(5), 0);
+        Check.due("64 KNOTS told once more", Check.tell(x, KNOTS_63 + "law turn 1;"), 2);
+        Check.due("and over them", Check.tell(x, KNOTS_63 + "law turn 1;"), 2);
+        Check.due("KNOTS then", x.count(5), 64);
+        Check.due("a 65th", Check.tell(x, KNOTS_63 + "law turn 1=1;"), Check.NONE);
+        Check.due("KNOTS behind a FAULT", x.count(5), 64);
     }
 
     private static void told() {

@@ -113,6 +113,7 @@ final class MemberSentences {
         due("each the first", matching("x", "y", "z"), 0, 1, 3, -2, -2);
         due("three for two", matching("x", "x", "x"), 0, 1, -2, -2, -2);
         due("the first one has one, the last none", matching("x", "", "x", "x"), 0, -2, 1, -2, -2);
+        due("one between them wins with none", matching("x", "", "y"), 0, -2, 1, -2, -2);
         due("all five", matching("xy", "y", "z", "z", "z"), 1, 2, 0, 3, 4);
         due("the first gives way", matching("xyz", "x", "x", "y", "z"), 3, 0, 1, 2, 4);
         due("none HOLDS a thing", matching("", "", "", "", ""), -2, -2, -2, -2, -2);

@@ -86,6 +86,9 @@ final class SetSentences {
         Check.due("not CALM, though each has one AGAINST it", quarrel("ab ba").set(bits("ab"), 2), 0);
         Check.due("by another one of it", quarrel("ab bh").set(bits("ah"), 2), 1);
         Check.due("not by one outside of it", quarrel("ab bh").set(bits("h"), 2), 0);
+        Check.due("the first of two isn't defended", quarrel("ca db bd").set(bits("ab"), 2), 0);
+        Check.due("the second of two isn't defended", quarrel("ca ac db").set(bits("ab"), 2), 0);
+        Check.due("both of two are defended", quarrel("ca ac db bd").set(bits("ab"), 2), 1);
     }
 
     private static void sets() {
@@ -229,6 +232,8 @@ final class SetSentences {
         Check.due("none can reply to a", quarrel("ab").replies(0, 0), 0);
         Check.due("a replies to b, none to a", quarrel("ab").replies(1, 0), 1);
         Check.due("it can't be named again", quarrel("ab ba").replies(0, 0), 1);
+        Check.due("it can't be named again, b", quarrel("ab ba").replies(1, 0), 1);
+        Check.due("it can't be named again, h", quarrel("gh hg").replies(7, 0), 1);
         Check.due("nor another one", quarrel("ba cb bc").replies(0, 0), 0);
         Check.due("three round", quarrel("ab bc ca").replies(0, 0), 0);
         Check.due("four round", quarrel("ab bc cd da").replies(0, 0), 1);
@@ -328,6 +333,8 @@ final class SetSentences {
         drop("ed db ba", 'a', 1, 0, -2);
         // d puts out both that stand against a, once e is kept off d: one, and not two.
         drop("ba ca db dc ed", 'a', 1, 4, -2);
+        // Without what keeps c off, d is put out, but c stands against a as well; so it is d's own contra that goes.
+        drop("bc cd da ca", 'a', 1, 2, -2);
         // Three against a: without two of them, the third one is put out by e.
         drop("ba ca da eb", 'a', 2, 1, 2);
         drop("eb da ca ba", 'a', 2, 1, 2);

@@ -41,6 +41,7 @@ final class TextSentences {
         feeding();
         feedingTooMuch();
         firstBytes();
+        nothingOfEarlierTexts();
         fresh();
         howManyLines();
         faultyStays();
@@ -159,6 +160,11 @@ final class TextSentences {
         Check.faulty(1, "claim a 1 0 #1;");
         Check.faulty(1, "claim a 1#/ 1;");
         Check.faulty(1, "claim a 1#: 1;");
+        // The digits behind the last byte don't belong to the text.
+        StrawMen cut = new StrawMen();
+        Check.feed(cut, "damp 100;");
+        Check.due("text(6) of 'damp 100;'", cut.text(6), Check.NONE);
+        Check.due("the place where more must come", cut.fault(1), 6);
     }
 
     private static void blanks() {
@@ -210,6 +216,8 @@ final class TextSentences {
         }
         Check.faulty(1, "law lean 1 #not 1;");
         Check.faulty(1, "law lean not#;");
+        Check.faulty(1, "law lean 1 or 1 #x 1;");
+        Check.faulty(1, "law lean 1 and 1 #x 1;");
     }
 
     private static void parts() {
@@ -221,6 +229,7 @@ final class TextSentences {
         Check.due("((night))", value("((night))"), 0);
         Check.faulty(1, "law lean (#);");
         Check.faulty(1, "law lean (1#;");
+        Check.faulty(1, "law lean (1 < 2 #< 3);");
         Check.faulty(1, "law lean (1#");
         Check.faulty(1, "law lean (1 #1);");
         Check.faulty(1, "law lean 1#);");
@@ -263,8 +272,9 @@ final class TextSentences {
 
     private static void joinedSigns() {
         Doc.says("Terms 1", "A = (or > behind <) right behind < or > belongs to it.");
-        String[] laws = {"1<=1", "2<=1", "1>=1", "1>=2", "1<>1", "1<>2", "1 <=\n1", "1<>\n1"};
-        long[] due = {1, 0, 1, 0, 0, 1, 1, 0};
+        String[] laws = {"1<=1", "2<=1", "1>=1", "1>=2", "1<>1", "1<>2", "1 <=\n1", "1<>\n1", "1<=(1)", "1>=(2)",
+            "1<>(1)", "(1)<>(2)"};
+        long[] due = {1, 0, 1, 0, 0, 1, 1, 0, 1, 0, 0, 1};
         for (int i = 0; i < laws.length; i++) {
             Check.due(laws[i], value(laws[i]), due[i]);
             Check.due("knots of " + laws[i], Check.told("law lean " + laws[i] + ";").count(5), 3);
@@ -536,6 +546,48 @@ final class TextSentences {
         Check.due("the place where more must come", cut.fault(1), 699);
     }
 
+    private static void nothingOfEarlierTexts() {
+        Doc.says("Promise 3", "The TAPE's first n bytes (it is empty then) are the TEXT");
+        String large = "claim a 99 9;claim b 98 8;contra a b;contra b a;straw s a 99;straw t b 98;member x;member y;holds x a;holds y b;"
+            + "debate x t 0;debate y s 1;stuff s 2;damp 99;seed 77;law lean 0;law wear 7;law turn 1 + 1;";
+        String small = "claim c 1 1;claim d 9 1;straw u c 7;member z;holds z d;";
+        // Large ones and a faulty one stand in every order ahead of the small one, however many texts the class holds.
+        String[][] earlier = {{large}, {large, large}, {large, large, large}, {large, large + "!"}, {large + "!"},
+            {large + "!", large, small}, {small, large, large + "!", large + "!"}};
+        for (String[] texts : earlier) {
+            StrawMen x = new StrawMen();
+            for (String text : texts) {
+                Check.tell(x, text);
+                x.go(3);
+                x.match(5);
+                x.tried(3, 0, 9);
+            }
+            String behind = " behind " + texts.length + " texts";
+            Check.due("LINES" + behind, Check.tell(x, small), 5);
+            int[] due = {2, 0, 1, 1, 0, 0, 0, 0, 0, 0, 0, 7, 1, 0, 0, 0};
+            for (int what = 0; what < 16; what++) {
+                Check.due("count(" + what + ")" + behind, x.count(what), due[what]);
+            }
+            Check.due("AGAINST nothing" + behind, x.claim(0, 2) + x.claim(1, 2) + x.claim(0, 3) + x.claim(1, 3), 0);
+            Check.due("no lean" + behind, x.law(0, 0, 0), Check.NO_VALUE);
+            Check.due("no turn" + behind, x.law(2, 0, 0), Check.NO_VALUE);
+            Check.due("no damp" + behind, x.dry(6, 0), 1);
+            Check.due("no match" + behind, x.match(5), 0);
+            Check.due("nothing is debated" + behind, x.ahead(9, 0, 0) + x.ahead(9, 1, 0) + x.ahead(9, 4, 0), 0);
+            Check.due("nothing is stuffed" + behind, x.ahead(9, 2, 0), 7);
+            Check.due("no straw s" + behind, x.named(1, Check.letters("s")), Check.NONE);
+            Check.due("LINES with laws" + behind, Check.tell(x, small + "law turn 3;law wear 2 + 3;damp 50;"), 8);
+            Check.due("turn" + behind, x.law(2, 0, 0), 3);
+            Check.due("wear" + behind, x.law(1, 0, 0), 5);
+            // By numbers from 0 on, as no seed is told: 0, 68, 88, 17, 98, 27 of a hundred.
+            int[] full = {6, 6, 6, 5, 5, 4};
+            for (int night = 0; night < full.length; night++) {
+                x.go(1);
+                Check.due("FULL behind NIGHT " + night + behind, x.straw(0, 1), full[night]);
+            }
+        }
+    }
+
     /** An object that has everything which a text puts back. */
     static StrawMen busy() {
         StrawMen x = Check.told(ONE + "straw t b 1;damp 40;seed 7;debate x t 0;debate x t 3;debate y s 3;");
@@ -663,6 +715,11 @@ final class TextSentences {
                 boolean b = what == 1 && letters == 1 << 26;
                 Check.due("named(" + what + ", " + letters + ")", x.named(what, letters), b ? 0 : Check.NONE);
             }
+        }
+        for (int more : new int[] {1 << 30, 1 << 31, 3 << 30, 1, 1 << 20}) {
+            Check.due("a and " + more, x.named(0, Check.letters("a") | more), Check.NONE);
+            Check.due("b and " + more, x.named(1, Check.letters("b") | more), Check.NONE);
+            Check.due("c and " + more, x.named(2, Check.letters("c") | more), Check.NONE);
         }
         Check.due("no straw a", x.named(1, Check.letters("a")), Check.NONE);
         Check.due("no member b", x.named(2, Check.letters("b")), Check.NONE);

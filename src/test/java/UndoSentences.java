@@ -146,11 +146,40 @@ final class UndoSentences {
             }
         }
         Check.due("what was SEEN isn't", x.count(13), 3);
+        worn();
         for (int night = 1; night <= 30; night++) {
             x.go(1);
             twin.go(1);
             Check.due("FULL on NIGHT " + night + ", by the same numbers", x.straw(0, 1), twin.straw(0, 1));
         }
+    }
+
+    // What comes behind the IMAGE is as if it had never been: WON, BEATEN, PUT OFF, the SHED, FULL, HELD, the NIGHT.
+    private static void worn() {
+        StrawMen x = Check.told(ONE + "law wear 99;law turn 1;debate y s 0;debate x s 0;debate x s 1;");
+        x.keep();
+        for (int time = 0; time < 2; time++) {
+            int[] due = {0, 0, 0, 0, 0, 50, 1};
+            int[] then = {2, 1, 1, 1, 1, 0, 2};
+            for (int what = 6; what < 13; what++) {
+                Check.due("count(" + what + ") of the IMAGE", x.count(what), due[what - 6]);
+            }
+            x.go(2);
+            for (int what = 6; what < 13; what++) {
+                Check.due("count(" + what + ") two NIGHTS on", x.count(what), then[what - 6]);
+            }
+            x.back();
+        }
+        Check.due("in the BARN", x.straw(0, 2), 0);
+        // The other way: what was in the SHED is in it again, though it was stuffed since.
+        StrawMen shed = Check.told(ONE + "law wear 99;debate x s 0;stuff s 3;");
+        shed.go(1);
+        shed.keep();
+        shed.go(3);
+        Check.due("stuffed", shed.straw(0, 1), 99);
+        shed.back();
+        Check.due("in the SHED again", shed.straw(0, 2), 1);
+        Check.due("FULL 0 again", shed.straw(0, 1), 0);
     }
 
     private static void keep() {
@@ -187,6 +216,19 @@ final class UndoSentences {
         Check.due("back() once more", x.back(), 2);
         Check.due("HELD as then, once more", x.member(1, 0), 1);
         Check.due("back() at once", x.back(), 2);
+        StrawMen wet = Check.told("claim a 1 1;straw s a 99;damp 50;seed 5;");
+        wet.go(3);
+        wet.keep();
+        int[] full = new int[20];
+        for (int i = 0; i < 20; i++) {
+            wet.go(1);
+            full[i] = wet.straw(0, 1);
+        }
+        wet.back();
+        for (int i = 0; i < 20; i++) {
+            wet.go(1);
+            Check.due("FULL by the numbers of the IMAGE, NIGHT " + (4 + i), wet.straw(0, 1), full[i]);
+        }
         StrawMen blank = new StrawMen();
         blank.keep();
         blank.go(9);
@@ -237,7 +279,25 @@ final class UndoSentences {
         }
         x.go(1);
         Check.due("DEBATES told, behind them, too", x.count(4), 4);
+        everybody();
         full();
+    }
+
+    // All five win, are beaten, and hold what is counted.
+    private static void everybody() {
+        StringBuilder text = new StringBuilder("claim a 50 0;claim b 50 0;contra a b;straw s b 99;law wear 0;law lean 40 + held * 9;");
+        for (char name = 'v'; name <= 'z'; name++) {
+            text.append("member ").append(name).append(";holds ").append(name).append(" a;");
+        }
+        StrawMen x = Check.told(text.toString());
+        for (int member = 0; member < 5; member++) {
+            Check.due("WINS", x.debate(member, 0), 1);
+            Check.due("WON by all", x.count(7), member + 1);
+            x.take(member, 1);
+            Check.due("is BEATEN", x.debate(member, 0), 0);
+            Check.due("BEATEN by all", x.count(8), member + 1);
+            Check.due("HELD by all", x.count(12), 6 + member);
+        }
     }
 
     // As much as there may be of all.
