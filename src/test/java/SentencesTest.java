@@ -11,6 +11,7 @@ public final class SentencesTest {
         MemberSentences.all();
         SeenSentences.all();
         UndoSentences.all();
+        LastSentences.all();
         Doc.noneLeftOut();
         Check.end("SentencesTest");
     }
