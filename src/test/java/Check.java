@@ -11,12 +11,33 @@ final class Check {
         + "member x;member y;holds x a;holds x c;holds y d;"
         + "debate x s 0;debate x t 1;debate y t 2;debate x s 3;stuff t 5;seed 0;";
 
+    // Far above what a test takes.
+    private static final long MOST_MILLIS = 300000;
+
     private static int wrong = 0;
     private static int calls = 0;
     // Which promise and sentence is being tested, told ahead of every answer that is not as due.
-    private static String heading = "";
+    private static volatile String heading = "";
+
+    // A call that never ends must fail the test, too, so each test is watched.
+    static {
+        Thread watch = new Thread(Check::endLate);
+        watch.setDaemon(true);
+        watch.start();
+    }
 
     private Check() {
+    }
+
+    private static void endLate() {
+        try {
+            Thread.sleep(MOST_MILLIS);
+        } catch (InterruptedException e) {
+            return;
+        }
+        System.out.println(heading + "a call doesn't end, behind " + calls + " answers");
+        System.out.flush();
+        Runtime.getRuntime().halt(1);
     }
 
     static void due(String what, long got, long want) {

@@ -79,6 +79,10 @@ final class FaultSentences {
             if (!some && tokens.indexOf(sign) < 0 && sign != '#') {
                 Check.faulty(1, "member x;#" + (char) sign + "member y;");
                 Check.faulty(1, "law lean 1 + #" + (char) sign + "1;");
+                Check.faulty(1, "law lean (1#" + (char) sign + ";");
+                Check.faulty(1, "law #" + (char) sign + " 1;");
+                Check.faulty(1, "stuff #" + (char) sign + " 1;");
+                Check.faulty(1, "damp #" + (char) sign + ";");
             }
         }
         Check.faulty(1, "#contrast a b;");
@@ -86,6 +90,8 @@ final class FaultSentences {
         Check.faulty(1, "member #weights;");
         Check.faulty(1, "member #temperr;");
         Check.faulty(1, "law lean #weights;");
+        Check.faulty(1, "law lean (1 #bracket;");
+        Check.faulty(1, "stuff #bracket 1;");
         Check.faulty(1, "law lean 1 #andorno 1;");
         Check.faulty(1, "claim a 1 1;contra #abcdefg a;");
         // Were its first six letters enough, it would be told already.
@@ -106,6 +112,20 @@ final class FaultSentences {
         }
         Check.faulty(1, "member x;#x;");
         Check.faulty(1, "member x;#1;");
+        // What stands in a number's place is no number, whatever the number ahead of it was.
+        Check.faulty(1, "seed 99999;damp #x;");
+        Check.faulty(1, "seed 99999;law lean #x;");
+        Check.faulty(1, "claim a 0 0;straw s a #x;");
+        Check.faulty(1, "claim a 99 #x;");
+        Check.faulty(1, "seed 99999;claim a #;");
+        Check.faulty(1, "seed 99999;damp #");
+        // Nor is what stands in a name's place a name, whatever the name ahead of it was.
+        Check.faulty(1, "member x;member #1;");
+        Check.faulty(1, "member x;member #;");
+        Check.faulty(1, "claim a 0 0;contra #1 a;");
+        Check.faulty(1, "claim a 0 0;member x;holds x #1;");
+        Check.faulty(1, "claim a 0 0;contra a #1;");
+        Check.faulty(1, "claim a 0 0;contra a #;");
         for (String sign : "( ) < <= = <> >= > + - * /".split(" ")) {
             Check.faulty(1, "member x;#" + sign + ";");
             Check.faulty(1, "member #" + sign + ";");

@@ -12,6 +12,7 @@ public final class SentencesTest {
         SeenSentences.all();
         UndoSentences.all();
         LastSentences.all();
+        NoSuchSentences.all();
         Doc.noneLeftOut();
         Check.end("SentencesTest");
     }

@@ -219,6 +219,8 @@ final class SetSentences {
         Check.due("the most, though it isn't the least", Check.told("claim a 1 1;claim b 1 1;claim c 1 1;contra a b;contra b a;"
             + "contra a c;contra c a;").largest(), 6);
         Check.due("nothing", Check.told("claim a 1 1;claim b 1 1;claim c 1 1;contra a b;contra b c;contra c a;").largest(), 0);
+        Check.due("it DEFENDS itself, though none STANDS", quarrel("ab bc ca").largest(), bits("defgh"));
+        Check.due("it DEFENDS itself, not the least that is CALM alone", quarrel("ba").largest(), bits("bcdefgh"));
         Doc.says("Promise 21", "LARGEST (bits).");
         Check.due("of five", Check.told(Check.FIVE_CLAIMS).largest(), 21);
         Check.due("of a new one", new StrawMen().largest(), 0);

@@ -273,14 +273,15 @@ final class TextSentences {
     private static void joinedSigns() {
         Doc.says("Terms 1", "A = (or > behind <) right behind < or > belongs to it.");
         String[] laws = {"1<=1", "2<=1", "1>=1", "1>=2", "1<>1", "1<>2", "1 <=\n1", "1<>\n1", "1<=(1)", "1>=(2)",
-            "1<>(1)", "(1)<>(2)"};
-        long[] due = {1, 0, 1, 0, 0, 1, 1, 0, 1, 0, 0, 1};
+            "1<>(1)", "(1)<>(2)", "(1)=1", "(1)>0", "(2)>=3", "(2)<=1", "(1)<0"};
+        long[] due = {1, 0, 1, 0, 0, 1, 1, 0, 1, 0, 0, 1, 1, 1, 0, 0, 0};
         for (int i = 0; i < laws.length; i++) {
             Check.due(laws[i], value(laws[i]), due[i]);
             Check.due("knots of " + laws[i], Check.told("law lean " + laws[i] + ";").count(5), 3);
         }
         String[] apart = {"1< #=2", "1<\n#=2", "1> #=2", "1< #>2", "1=#<2", "1=#>2", "1>#<2", "1>#>2", "1<#<2", "1=#=2",
-            "1<>#=2", "1<=#>2", "1<=#=2", "1>=#=2", "1<>#>2"};
+            "1<>#=2", "1<=#>2", "1<=#=2", "1>=#=2", "1<>#>2", "1+#=2", "1-#>2", "1*#=2", "1/#=2", "(#=2)", "(#>2)", "1;#=",
+            "1;#>"};
         for (String law : apart) {
             Check.faulty(1, "law lean " + law + ";");
         }

@@ -97,6 +97,18 @@ final class UndoSentences {
         Check.due("FULL of s", two.straw(1, 1), 30);
         Check.due("WON by y, on NIGHT 0", two.member(1, 1), 1);
         Check.due("BEATEN x, on NIGHT 0", two.member(0, 2), 1);
+        two.debate(1, 0);
+        two.debate(0, 1);
+        two.debate(1, 1);
+        Check.due("FULL of r, worn by y", two.straw(0, 1), 40);
+        Check.due("FULL of s, worn by y", two.straw(1, 1), 20);
+        two.undo();
+        Check.due("FULL of s as it was", two.straw(1, 1), 30);
+        two.undo();
+        Check.due("x isn't BEATEN again", two.member(0, 2), 1);
+        two.undo();
+        Check.due("FULL of r as it was", two.straw(0, 1), 50);
+        Check.due("FULL of s as it is", two.straw(1, 1), 30);
         // Of one who HOLDS it already nothing comes, and nothing is given up by undoing it.
         StrawMen held = Check.told(ONE + "holds y b;law turn 1;");
         held.debate(1, 0);
