@@ -9,6 +9,8 @@ import java.util.stream.Stream;
 
 /** A directory of its own, with main and shared beside each other, in which commands are tried; nothing is left behind. */
 final class Elsewhere {
+    private static final int CAN_NOT_BE_RUN = 126;
+
     final Path root;
     final Path main;
     final Path shared;
@@ -42,6 +44,12 @@ final class Elsewhere {
 
     /** The command's exit code, and what it printed. */
     Outcome run(String command) throws IOException, InterruptedException {
+        Outcome outcome = runPlainly(command);
+        // A machine may not let a file be run from where temporary ones are.
+        return outcome.code == CAN_NOT_BE_RUN ? runPlainly("sh " + command) : outcome;
+    }
+
+    private Outcome runPlainly(String command) throws IOException, InterruptedException {
         Process process = new ProcessBuilder("sh", "-c", command).directory(main.toFile()).redirectErrorStream(true).start();
         process.getOutputStream().close();
         String printed = new String(process.getInputStream().readAllBytes(), StandardCharsets.UTF_8);

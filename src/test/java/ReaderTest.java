@@ -1,16 +1,9 @@
-import java.nio.charset.StandardCharsets;
 import java.util.ArrayList;
-import java.util.Arrays;
 import java.util.List;
 import java.util.Random;
 
-/** Promises 3 and 4: texts made by chance, most of them near a bound, against a second reader in its plainest form. */
+/** Promises 3 and 4: texts made by chance, most of them near a bound, against a second reader (Told). */
 public final class ReaderTest {
-    private static final List<String> NAMES = List.of("weight", "temper", "full", "force", "wins", "held", "night");
-    private static final List<String> LANGUAGE = List.of("claim", "contra", "straw", "member", "holds", "debate", "stuff",
-        "damp", "seed", "law", "lean", "wear", "turn", "or", "and", "not", "weight", "temper", "full", "force", "wins",
-        "held", "night");
-    private static final List<String> COMPARED = List.of("<", "<=", "=", "<>", ">=", ">");
     private static final String[] STRANGE = {"not", "or", "and", "(", ")", ";", "<", "<=", "=", "<>", ">=", ">", "+", "-",
         "*", "/", "1", "9999", "10000", "night", "x", "lean", "claim", "abcdef", "abcdefg", "A", "!"};
 
@@ -35,11 +28,11 @@ public final class ReaderTest {
         int fault = 0;
         int place = StrawMen.NONE;
         int knots = 0;
-        Second second = new Second(text);
         try {
-            lines = second.lines();
-            knots = second.knots;
-        } catch (Second.Fault found) {
+            Told told = new Told(text);
+            lines = told.lines;
+            knots = told.knots;
+        } catch (Told.Fault found) {
             fault = found.which;
             place = found.place;
         }
@@ -83,10 +76,10 @@ public final class ReaderTest {
         parts.add("1");
         for (int i = 0; i < signs; i++) {
             parts.add(joints[random.nextInt(joints.length)]);
-            parts.add(random.nextBoolean() ? "7" : NAMES.get(random.nextInt(NAMES.size())));
+            parts.add(random.nextBoolean() ? "7" : Told.NAMES.get(random.nextInt(Told.NAMES.size())));
         }
         if (random.nextInt(3) == 0) {
-            parts.add(COMPARED.get(random.nextInt(COMPARED.size())));
+            parts.add(Told.COMPARED.get(random.nextInt(Told.COMPARED.size())));
             parts.add("2");
         }
         for (int i = 0; i < open; i++) {
@@ -119,272 +112,5 @@ public final class ReaderTest {
 
     private static int number(Random random) {
         return random.nextInt(60) > 0 ? 1 + random.nextInt(9) : random.nextInt(120);
-    }
-
-    /** Reads as the document is worded: a method for each part of its grammar, a fault thrown where it is found. */
-    private static final class Second {
-        static final class Fault extends Exception {
-            private static final long serialVersionUID = 1L;
-            final int which;
-            final int place;
-
-            Fault(int which, int place) {
-                this.which = which;
-                this.place = place;
-            }
-        }
-
-        final List<String> tokens = new ArrayList<>();
-        final List<Integer> places = new ArrayList<>();
-        final List<String> claims = new ArrayList<>();
-        final List<String> straws = new ArrayList<>();
-        final List<String> members = new ArrayList<>();
-        final List<String> told = new ArrayList<>();
-        int contras = 0;
-        int debates = 0;
-        int stuffs = 0;
-        int at = 0;
-        int open = 0;
-        int knots = 0;
-
-        Second(String text) {
-            byte[] bytes = text.getBytes(StandardCharsets.ISO_8859_1);
-            int i = 0;
-            while (i < bytes.length) {
-                int from = i;
-                i++;
-                if (isLetter(bytes[from])) {
-                    while (i < bytes.length && isLetter(bytes[i])) {
-                        i++;
-                    }
-                } else if (isDigit(bytes[from])) {
-                    while (i < bytes.length && isDigit(bytes[i])) {
-                        i++;
-                    }
-                } else if (i < bytes.length && Arrays.asList("<=", "<>", ">=").contains(text.substring(from, i + 1))) {
-                    i++;
-                }
-                if (bytes[from] != 10 && bytes[from] != 32) {
-                    tokens.add(text.substring(from, i));
-                    places.add(from);
-                }
-            }
-            tokens.add("");
-            places.add(bytes.length);
-        }
-
-        private static boolean isLetter(int b) {
-            return b >= 'a' && b <= 'z';
-        }
-
-        private static boolean isDigit(int b) {
-            return b >= '0' && b <= '9';
-        }
-
-        int lines() throws Fault {
-            int lines = 0;
-            while (!is("")) {
-                line();
-                demand(is(";"), 1);
-                at++;
-                lines++;
-            }
-            return lines;
-        }
-
-        private boolean is(String token) {
-            return tokens.get(at).equals(token);
-        }
-
-        private void demand(boolean fine, int otherwise) throws Fault {
-            if (!fine) {
-                throw new Fault(otherwise, places.get(at));
-            }
-        }
-
-        private String word() throws Fault {
-            String token = tokens.get(at);
-            boolean letters = !token.isEmpty() && isLetter(token.charAt(0));
-            demand(letters && token.length() <= 6 && !LANGUAGE.contains(token), 1);
-            return token;
-        }
-
-        private String fresh(List<String> names) throws Fault {
-            String token = word();
-            demand(!names.contains(token), 3);
-            at++;
-            return token;
-        }
-
-        private String one(List<String> names) throws Fault {
-            String token = word();
-            demand(names.contains(token), 4);
-            at++;
-            return token;
-        }
-
-        private boolean isNumber() {
-            return !is("") && isDigit(tokens.get(at).charAt(0));
-        }
-
-        private void number(int least, int most) throws Fault {
-            demand(isNumber(), 1);
-            demand(new java.math.BigInteger(tokens.get(at)).compareTo(java.math.BigInteger.valueOf(most)) <= 0, 2);
-            demand(Integer.parseInt(tokens.get(at)) >= least, 2);
-            at++;
-        }
-
-        private void line() throws Fault {
-            switch (tokens.get(at)) {
-                case "claim":
-                    begin(claims.size() < 8, 2);
-                    String claim = fresh(claims);
-                    number(0, 99);
-                    number(0, 9);
-                    claims.add(claim);
-                    break;
-                case "contra":
-                    begin(contras < 16, 2);
-                    String from = one(claims);
-                    second("contra " + from + " ", claims);
-                    at--;
-                    demand(!is(from), 5);
-                    at++;
-                    contras++;
-                    break;
-                case "straw":
-                    begin(straws.size() < 5, 2);
-                    String straw = fresh(straws);
-                    one(claims);
-                    number(1, 99);
-                    straws.add(straw);
-                    break;
-                case "member":
-                    begin(members.size() < 5, 2);
-                    members.add(fresh(members));
-                    break;
-                case "holds":
-                    begin(true, 0);
-                    second("holds " + one(members) + " ", claims);
-                    break;
-                case "debate":
-                    begin(debates < 12, 2);
-                    one(members);
-                    one(straws);
-                    number(0, 99);
-                    debates++;
-                    break;
-                case "stuff":
-                    begin(stuffs < 6, 2);
-                    one(straws);
-                    number(0, 99);
-                    stuffs++;
-                    break;
-                case "damp":
-                    begin(told.add("damp") && told.indexOf("damp") == told.size() - 1, 3);
-                    number(0, 100);
-                    break;
-                case "seed":
-                    begin(told.add("seed") && told.indexOf("seed") == told.size() - 1, 3);
-                    number(0, 99999);
-                    break;
-                case "law":
-                    begin(true, 0);
-                    demand(is("lean") || is("wear") || is("turn"), 1);
-                    String law = tokens.get(at);
-                    begin(told.add(law) && told.indexOf(law) == told.size() - 1, 3);
-                    either();
-                    break;
-                default:
-                    demand(false, 1);
-            }
-        }
-
-        private void begin(boolean fine, int otherwise) throws Fault {
-            demand(fine, otherwise);
-            at++;
-        }
-
-        private void second(String first, List<String> names) throws Fault {
-            String pair = first + one(names);
-            at--;
-            demand(!told.contains(pair), 3);
-            told.add(pair);
-            at++;
-        }
-
-        private void knot() throws Fault {
-            demand(knots < 64, 2);
-            knots++;
-            at++;
-        }
-
-        private void either() throws Fault {
-            both();
-            while (is("or")) {
-                knot();
-                both();
-            }
-        }
-
-        private void both() throws Fault {
-            denied();
-            while (is("and")) {
-                knot();
-                denied();
-            }
-        }
-
-        private void denied() throws Fault {
-            if (is("not")) {
-                knot();
-                denied();
-            } else {
-                compared();
-            }
-        }
-
-        private void compared() throws Fault {
-            sum();
-            if (COMPARED.contains(tokens.get(at))) {
-                knot();
-                sum();
-            }
-        }
-
-        private void sum() throws Fault {
-            product();
-            while (is("+") || is("-")) {
-                knot();
-                product();
-            }
-        }
-
-        private void product() throws Fault {
-            part();
-            while (is("*") || is("/")) {
-                knot();
-                part();
-            }
-        }
-
-        private void part() throws Fault {
-            if (is("(")) {
-                demand(open < 8, 2);
-                open++;
-                at++;
-                either();
-                demand(is(")"), 1);
-                open--;
-                at++;
-            } else if (isNumber()) {
-                number(0, 9999);
-                at--;
-                knot();
-            } else {
-                demand(NAMES.contains(tokens.get(at)), 1);
-                knot();
-            }
-        }
     }
 }

@@ -6,6 +6,7 @@ import java.util.List;
 import java.util.regex.Matcher;
 import java.util.regex.Pattern;
 import java.util.stream.Collectors;
+import java.util.stream.Stream;
 
 /** README.md: the program and the commands in it are tried as they stand there, and it names every call of the face. */
 public final class ReadmeTest {
@@ -32,13 +33,16 @@ public final class ReadmeTest {
         Check.end("ReadmeTest");
     }
 
-    // Without the tests that run .ci/run themselves: there .ci/run is one of the commands that are tried.
+    // Of the tests only the one that the page names: all of them are being run already, by the .ci/run that runs this one.
     private static void copyProject(Elsewhere there) throws IOException {
         Elsewhere.copy(Path.of(".ci"), there.main.resolve(".ci"));
         Elsewhere.copy(Path.of("src"), there.main.resolve("src"));
         Elsewhere.copy(Path.of("..", "shared"), there.shared);
-        Files.delete(there.main.resolve("src/test/java/ReadmeTest.java"));
-        Files.delete(there.main.resolve("src/test/java/RunTest.java"));
+        for (String name : namesIn(there.main.resolve("src/test/java"), "Test.java")) {
+            if (!name.equals("SetsTest")) {
+                Files.delete(there.main.resolve("src/test/java/" + name + ".java"));
+            }
+        }
     }
 
     private static void tried(Elsewhere there, String command, List<String> program)
@@ -68,12 +72,15 @@ public final class ReadmeTest {
         }
     }
 
-    private static void allRan(Path directory, String ending, List<String> printed) throws IOException {
-        List<String> names;
-        try (var files = Files.list(directory)) {
-            names = files.map(file -> file.getFileName().toString()).filter(name -> name.endsWith(ending))
+    private static List<String> namesIn(Path directory, String ending) throws IOException {
+        try (Stream<Path> files = Files.list(directory)) {
+            return files.map(file -> file.getFileName().toString()).filter(name -> name.endsWith(ending))
                 .map(name -> name.replace(".java", "")).collect(Collectors.toList());
         }
+    }
+
+    private static void allRan(Path directory, String ending, List<String> printed) throws IOException {
+        List<String> names = namesIn(directory, ending);
         Check.due("tests in " + directory, names.isEmpty(), false);
         for (String name : names) {
             Check.due("README.md: does .ci/run run " + name, printed.contains(name + ": passed"), true);
